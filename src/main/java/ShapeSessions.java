@@ -717,6 +717,7 @@ public final class ShapeSessions {
             if (place >= 0) {
                 hits++;
             } else {
+                // One goes at most: in a hand over its room a statement works by each entry.
                 shrinkTo(room - 1);
                 if (inHand >= room || inHand >= MOST_ROOM) {
                     return false;

@@ -134,8 +134,10 @@ public final class PromisesTest {
         due("invalid rather than the limit", INVALID, x.alter(6, 1));
         due("a table at the limit can change", 1, x.tableOf(1, 4));
         due("all tables can change", 63, x.count(7));
+        x.start(2, 48);
         due("in the way at the limit", MISSING, x.inTheWay(1));
         due("undo", 3, x.undo());
+        due("undo", 2, x.undo());
         due("below the limit", 1, x.alter(1, 1));
     }
 
@@ -429,6 +431,10 @@ public final class PromisesTest {
         x.start(0, 4);
         due("least of one session", 1, x.tableOf(2, 2));
         due("two entries, one hand", 1, x.tableOf(2, 3));
+        x.start(0, 8);
+        x.alter(3, 1);
+        x.start(2, 8);
+        due("least, the lower session's", 0, x.tableOf(3, 2));
     }
 
     private static void promise8() {
@@ -487,6 +493,10 @@ public final class PromisesTest {
         x.start(3, 1);
         due("a lower table ahead", 0, x.entry(3, 0, 0));
         due("the last", 5, x.entry(3, 3, 0));
+        x.start(1, 2);
+        x.start(1, 8);
+        due("tables rather than versions", 1, x.entry(1, 0, 0));
+        due("tables rather than versions", 3, x.entry(1, 1, 0));
     }
 
     private static void promise10() {
@@ -557,6 +567,8 @@ public final class PromisesTest {
         }
         due("setting 0", 9, x.count(20));
         due("setting 1", 7, x.count(21));
+        x.alter(0, 1);
+        due("neither 0 nor 1", 60, x.count(7));
     }
 
     private static void promise13() {
@@ -569,6 +581,7 @@ public final class PromisesTest {
         due("what -1", INVALID, x.would(0, 1, -1));
         due("what 4", INVALID, x.would(0, 1, 4));
         due("no room", LIMIT, x.would(0, 15, 0));
+        due("the first statement of all", 2, x.would(3, 3, 1));
         due("an argument rather", INVALID, x.would(0, 15, 4));
         x.start(0, 7);
         x.end(0);
@@ -588,6 +601,10 @@ public final class PromisesTest {
         due("history", 4, x.count(4));
         x.tick(3);
         due("learns nothing", 0, x.would(0, 1, 3));
+        x.start(0, 24);
+        x.end(1);
+        due("one went before", 1, x.sessionOf(0, 7));
+        due("drops of this one alone", 1, x.would(0, 32, 2));
         x.start(0, 2);
         x.start(0, 2);
         x.start(0, 2);
@@ -607,16 +624,29 @@ public final class PromisesTest {
         x.start(0, 1);
         x.start(3, 1);
         due("works by what is current", MISSING, x.inTheWay(0));
+        x.alter(2, 1);
+        due("the statement 0", 0, x.inTheWay(2));
+        x.start(1, 1);
+        x.end(0);
+        due("ended", MISSING, x.inTheWay(2));
         x.alter(0, 1);
         due("the lowest", 1, x.inTheWay(0));
         due("another table", MISSING, x.inTheWay(2));
         x.start(3, 1);
         x.end(1);
-        due("then", 2, x.inTheWay(0));
+        due("then, of another session", 2, x.inTheWay(0));
         x.end(2);
         due("then", 3, x.inTheWay(0));
         x.end(3);
+        due("then", 4, x.inTheWay(0));
+        x.end(4);
         due("one by the new version is none", MISSING, x.inTheWay(0));
+        ShapeSessions y = new ShapeSessions();
+        for (int i = 0; i < 6; i++) {
+            y.start(i / 2, 1);
+        }
+        y.alter(0, 1);
+        due("0, the lowest of its session and of all", 0, y.inTheWay(0));
     }
 
     private static void promise15() {
@@ -671,6 +701,16 @@ public final class PromisesTest {
         y.start(0, 1);
         due("the longest ago goes, so it takes three", 3, y.bestRoom(0));
         due("loads", 3, y.bestRoom(1));
+        ShapeSessions z = new ShapeSessions();
+        for (int i = 0; i < 4; i++) {
+            z.start(2, 1);
+        }
+        z.end(0);
+        z.start(2, 2);
+        z.alter(0, 1);
+        due("each is ended at once, with none open at first", 1, z.bestRoom(0));
+        due("loads", 2, z.bestRoom(1));
+        due("still not ended", 4, z.count(3));
     }
 
     private static void promise16And17() {
@@ -744,6 +784,18 @@ public final class PromisesTest {
         due("back", 1, x.statement(0, 0));
         due("undo start", 0, x.undo());
         due("back", MISSING, x.statement(0, 0));
+        ShapeSessions y = new ShapeSessions();
+        y.tick(1);
+        y.undo();
+        y.tick(2);
+        y.tick(4);
+        y.tick(8);
+        due("what was undone is not in the way of what came then", 2, y.undo());
+        due("tick", 6, y.count(0));
+        due("undo", 1, y.undo());
+        due("tick", 2, y.count(0));
+        due("undo", 0, y.undo());
+        due("tick", 0, y.count(0));
     }
 
     private static void promise19And20() {
@@ -813,7 +865,7 @@ public final class PromisesTest {
             due("play " + command, IMPOSSIBLE, x.play());
         }
         ShapeSessions open = new ShapeSessions();
-        String[] endings = {"t", "t1", "c", "c1", "c1,", "c1,1", "s001,001"};
+        String[] endings = {"t1;t1", "t1;t", "t", "t1", "c", "c1", "c1,", "c1,1", "s001,001"};
         for (String command : endings) {
             write(open, command);
             due("reason of " + command, 1, open.fault(1));
