@@ -529,10 +529,10 @@ public final class ShapeSessions {
             }
             int came = 0;
             // No notice is on its way for longer than this, so the ticks after it bring none.
-            int last = ticks + Math.min(wanted, SLOWEST_NOTICE);
-            for (int at = ticks + 1; at <= last; at++) {
+            int bringing = Math.min(wanted, SLOWEST_NOTICE);
+            for (int passed = 1; passed <= bringing; passed++) {
                 for (int i = 0; i < notices && i < MOST_NOTICES; i++) {
-                    if (noticeDue[i] == at) {
+                    if (noticeDue[i] == ticks + passed) {
                         arrive(i);
                         came += SESSIONS;
                     }

@@ -10,6 +10,7 @@ import java.util.List;
 import java.util.TreeSet;
 import java.util.regex.Matcher;
 import java.util.regex.Pattern;
+import java.util.stream.Stream;
 
 /** Those rules of ../shared/LANGUAGE.md that can be seen from the source and the compiled classes. */
 public final class LanguageTest {
@@ -23,15 +24,33 @@ public final class LanguageTest {
         "int notice(int)", "int count(int)", "int would(int,int,int)", "int inTheWay(int)", "int bestRoom(int)",
         "int keep()", "int restore()", "int undo()", "int type(int)", "int clearText()", "int fault(int)", "int play()"};
 
+    private static final String[] ORDER = {
+        "// ---- tables, statements, time", "alter", "start", "end", "tick", "set",
+        "// ---- what there is", "tableOf", "sessionOf", "entry", "statement", "notice", "count",
+        "// ---- what would be", "would", "inTheWay", "bestRoom",
+        "// ---- snapshot, undo", "keep", "restore", "undo",
+        "// ---- texts", "type", "clearText", "fault", "play"};
+
     private static final Checks CHECKS = new Checks("LanguageTest");
 
     public static void main(String[] args) throws IOException {
         String bare = Files.readString(PROGRAM).replaceAll("(?s)/\\*.*?\\*/", "").replaceAll("//[^\n]*", "");
+        onlyFile();
         words(bare);
         lengths(bare);
+        order(Files.readString(PROGRAM));
         face();
+        faceModifiers();
         inside();
         CHECKS.close();
+    }
+
+    private static void onlyFile() throws IOException {
+        CHECKS.part("files");
+        try (Stream<Path> all = Files.walk(Path.of("src/main"))) {
+            List<Path> files = all.filter(Files::isRegularFile).toList();
+            CHECKS.holds("one file: " + files, files.equals(List.of(PROGRAM)));
+        }
     }
 
     private static void words(String source) {
@@ -65,6 +84,17 @@ public final class LanguageTest {
         CHECKS.holds("every method was seen to end", start == null);
     }
 
+    /** The calls stand in the document's order, behind the headings that it names. */
+    private static void order(String source) {
+        CHECKS.part("order");
+        int at = 0;
+        for (String next : ORDER) {
+            int found = source.indexOf(next.startsWith("//") ? "\n    " + next + "\n" : "\n    public int " + next + "(", at);
+            CHECKS.holds(next + " in its place", found >= 0);
+            at = Math.max(at, found);
+        }
+    }
+
     private static void face() {
         CHECKS.part("face");
         CHECKS.holds("public and final", Modifier.isPublic(ShapeSessions.class.getModifiers())
@@ -87,6 +117,28 @@ public final class LanguageTest {
         }
         CHECKS.holds("the constants and no other field: " + fields, fields.equals(
             new TreeSet<>(List.of("INVALID_ARGUMENT", "NOT_POSSIBLE", "LIMIT_REACHED", "NOT_FOUND"))));
+    }
+
+    private static void faceModifiers() {
+        CHECKS.part("modifiers of the face");
+        for (Method m : ShapeSessions.class.getDeclaredMethods()) {
+            if (Modifier.isPublic(m.getModifiers())) {
+                CHECKS.holds(m + " is public alone", m.getModifiers() == Modifier.PUBLIC);
+                CHECKS.holds(m + " tells of no exception", m.getExceptionTypes().length == 0);
+            }
+        }
+        for (Constructor<?> c : ShapeSessions.class.getDeclaredConstructors()) {
+            CHECKS.holds("the constructor tells of no exception", c.getExceptionTypes().length == 0);
+        }
+        for (Field f : ShapeSessions.class.getDeclaredFields()) {
+            if (Modifier.isPublic(f.getModifiers())) {
+                CHECKS.holds(f + " is a constant", f.getType() == int.class && Modifier.isStatic(f.getModifiers())
+                    && Modifier.isFinal(f.getModifiers()));
+            }
+        }
+        CHECKS.holds("of no other class", ShapeSessions.class.getSuperclass() == Object.class
+            && ShapeSessions.class.getInterfaces().length == 0);
+        CHECKS.holds("without a package", ShapeSessions.class.getPackageName().isEmpty());
     }
 
     private static String signature(Method m) {

@@ -1,6 +1,7 @@
 /**
- * The sentences of the sections "What it is" and "Terms" of the document that name a boundary, in
- * their order: each has a run of its own on a new object, which tells it wrong if it does not hold.
+ * The sentences of the sections "What it is" and "Terms" of the document, above all those that name a
+ * boundary, in their order: each has a run of its own on a new object, which tells it wrong if it does
+ * not hold.
  */
 public final class TermsTest {
     private static final Checks CHECKS = new Checks("TermsTest");
@@ -10,9 +11,12 @@ public final class TermsTest {
     }
 
     public static void main(String[] args) {
+        calls();
+        sets();
         tables();
         notices();
         whatSessionsKnow();
+        entries();
         stale();
         room();
         starting();
@@ -31,6 +35,41 @@ public final class TermsTest {
         historyOverItsEnd();
         ranks();
         CHECKS.close();
+    }
+
+    private static void calls() {
+        told("An object is used for at most 512 calls: the last is answered as well as the first", """
+            511 times tick 1 | count 0 = 511
+            """);
+        told("at most 512 calls: the last takes one back", """
+            510 times tick 1 | count 4 = 4 | undo = 3
+            """);
+        StringBuilder statements = new StringBuilder();
+        for (int i = 0; i < 254; i++) {
+            statements.append("start ").append(i % 4).append(' ').append(1 << i % 6).append(" = ").append(i)
+                .append(" | end ").append(i).append(" = 0\n");
+        }
+        told("at most 512 calls: as many statements as they allow", statements + "bestRoom 0 = 1 | bestRoom 1 = 12 | count 2 = 254 | start 3 1 = 254");
+        told("at most 512 calls: as many states as they allow", "set 0 0 | 100 times alter 0 1 | 98 times alter 0 1 = -3 | 100 times undo | 99 times alter 0 1 | keep | 99 times restore | 4 times undo | tableOf 0 0");
+    }
+
+    private static void sets() {
+        told("Sets are told as bits: bit k is for number k, of tables", """
+            start 0 1 = 0 | start 0 2 = 1 | start 1 4 = 2 | start 1 8 = 3 | start 2 16 = 4 | start 2 32 = 5
+            entry 0 0 0 = 0 | entry 0 1 0 = 1 | entry 1 0 0 = 2 | entry 1 1 0 = 3 | entry 2 0 0 = 4 | entry 2 1 0 = 5
+            statement 0 1 = 1 | statement 1 1 = 2 | statement 2 1 = 4 | statement 3 1 = 8 | statement 4 1 = 16 | statement 5 1 = 32
+            alter 0 1 | count 7 = 62 | alter 1 1 | count 7 = 60 | alter 2 1 | count 7 = 56 | alter 3 1 | count 7 = 48 | alter 4 1 | count 7 = 32
+            alter 5 1 | count 7 = 0
+            statement 0 3 = 1 | statement 1 3 = 2 | statement 2 3 = 4 | statement 3 3 = 8 | statement 4 3 = 16 | statement 5 3 = 32
+            """);
+        told("bit k is for number k, of columns", """
+            alter 0 1 | tableOf 0 1 = 3 | alter 1 2 | tableOf 1 1 = 5 | alter 2 3 | tableOf 2 1 = 9 | alter 3 4 | tableOf 3 1 = 17
+            alter 4 5 | tableOf 4 1 = 33 | alter 5 6 | tableOf 5 1 = 65 | alter 5 7 | tableOf 5 1 = 193
+            """);
+        told("a set of several", """
+            start 3 38 = 0 | statement 0 1 = 38 | entry 3 0 0 = 1 | entry 3 1 0 = 2 | entry 3 2 0 = 5 | entry 3 3 0 = -4
+            alter 1 1 | alter 5 1 | alter 0 1 | statement 0 3 = 34 | count 7 = 29
+            """);
     }
 
     private static void tables() {
@@ -56,6 +95,11 @@ public final class TermsTest {
     }
 
     private static void notices() {
+        told("a notice goes out, which tells the table", """
+            alter 3 1 = 1 | count 1 = 1 | notice 0 = 3 | alter 0 5 = 1 | alter 1 5 = 1 | alter 2 5 = 1 | alter 4 5 = 1 | alter 5 5 = 1 | alter 3 1 = 2
+            count 1 = 7 | notice 0 = 3 | notice 1 = 0 | notice 2 = 1 | notice 3 = 2 | notice 4 = 4 | notice 5 = 5 | notice 6 = 3 | notice 7 = -4
+            """);
+        told("none goes out if the table does not change", "alter 3 0 = -2 | alter 6 0 = -1 | count 1 = 0 | notice 0 = -4 | tick 99 = 0");
         told("Notices are numbered from 0", "notice 0 = -4 | alter 5 1 | notice 0 = 5 | notice 1 = -4");
         told("in the order in which they went out, not in which they come", """
             set 0 20 | alter 5 1 | set 0 0 | alter 4 1 | set 0 2 | alter 3 1 | tick 2 = 4
@@ -96,6 +140,23 @@ public final class TermsTest {
         told("but of none behind these", """
             set 0 1 | alter 0 1 | set 0 2 | alter 1 1 | tick 1 = 4 | sessionOf 1 0 = 1 | tick 1 = 4 | sessionOf 1 0 = 2
             """);
+    }
+
+    private static void entries() {
+        told("each is a table, a version, the shape of that version: it stays as it was when the table changes", """
+            alter 4 7 = 1 | alter 4 2 = 2 | start 1 16 = 0 | entry 1 0 0 = 4 | entry 1 0 1 = 2 | entry 1 0 2 = 133 | alter 4 0 = 3 | tick 3
+            entry 1 0 0 = 4 | entry 1 0 1 = 2 | entry 1 0 2 = 133 | tableOf 4 1 = 132 | start 1 16 = 1 | entry 1 1 1 = 3 | entry 1 1 2 = 132
+            entry 1 0 2 = 133
+            """);
+        told("how many statements work by it", """
+            start 1 3 = 0 | entry 1 0 3 = 1 | start 1 1 = 1 | start 1 1 = 2 | start 1 3 = 3 | entry 1 0 3 = 4 | entry 1 1 3 = 2 | start 2 1 = 4
+            entry 1 0 3 = 4 | end 3 = 0 | entry 1 0 3 = 3 | entry 1 1 3 = 1 | end 0 | end 1 | end 2 | entry 1 0 3 = 0 | entry 1 1 3 = 0 | entry 2 0 3 = 1
+            """);
+        told("when it was used last (the number of the statement)", """
+            start 0 2 = 0 | start 1 3 = 1 | entry 1 0 4 = 1 | entry 1 1 4 = 1 | tick 9 | start 0 1 = 2 | start 1 2 = 3 | entry 1 0 4 = 1 | entry 1 1 4 = 3
+            end 3 | end 1 | entry 1 0 4 = 1 | entry 1 1 4 = 3
+            """);
+        told("and whether it is stale", "start 1 3 = 0 | alter 1 1 = 1 | entry 1 1 5 = 0 | tick 3 = 4 | entry 1 0 5 = 0 | entry 1 1 5 = 1");
     }
 
     private static void stale() {
